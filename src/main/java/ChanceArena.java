@@ -789,7 +789,7 @@ public final class ChanceArena {
 
         private int takeOperand() {
             int sort = words.sorts[at];
-            int place = here();
+            int start = here();
             switch (sort) {
                 case NUMBER:
                     return takeValue(NUMBER, words.amounts[at], false);
@@ -799,20 +799,20 @@ public final class ChanceArena {
                 case NAME:
                     int found = find(at);
                     if (found == NONE || constsOnly && nameSort[found] != CONST) {
-                        note(NAME_FAULT, place);
+                        note(NAME_FAULT, start);
                         return takeValue(NUMBER, 0, false);
                     }
                     return takeValue(nameSort[found], nameIndex[found], nameTruth[found]);
                 case OPEN:
-                    return takeLevel(OPEN, place);
+                    return takeLevel(OPEN, start);
                 case MINUS:
-                    return takeLevel(NEGATE, place);
+                    return takeLevel(NEGATE, start);
                 case NOT:
-                    return mayDeny() ? takeLevel(DENY, place) : REFUSED;
+                    return mayDeny() ? takeLevel(DENY, start) : REFUSED;
                 case LEAST:
                 case MOST:
                     at++;
-                    return words.sorts[at] == OPEN ? takeLevel(sort, place) : REFUSED;
+                    return words.sorts[at] == OPEN ? takeLevel(sort, start) : REFUSED;
                 default:
                     return REFUSED;
             }
@@ -939,7 +939,7 @@ public final class ChanceArena {
         /** The word here must go on with the innermost '?', '(', least or most, or end it. */
         private int closeInner(int sort, int top) {
             boolean asked = open[top] == ASK;
-            boolean listed = open[top] != ASK && open[top] != OPEN;
+            boolean listed = open[top] == LEAST || open[top] == MOST;
             boolean goesOn = asked && sort == COLON || listed && sort == COMMA;
             if (!goesOn && (asked || sort != CLOSE)) {
                 return REFUSED;
@@ -952,7 +952,16 @@ public final class ChanceArena {
                 open[top] = ELSE;
             }
             if (listed) {
-                takeListed(top, sort == CLOSE);
+                if ((openMarks[top] & FOLLOWS) != 0) {
+                    text.add(open[top], openPlace[top]);
+                }
+                openMarks[top] |= FOLLOWS | (popKind() ? WRONG_KIND : 0);
+            }
+            if (listed && !goesOn) {
+                if ((openMarks[top] & WRONG_KIND) != 0) {
+                    note(KIND_FAULT, openPlace[top]);
+                }
+                pushKind(false);
             }
             if (!goesOn) {
                 opened--;
@@ -961,20 +970,6 @@ public final class ChanceArena {
             operandWanted = goesOn;
             at++;
             return GO_ON;
-        }
-
-        /** One more rule of a least or most is over, maybe the last one. */
-        private void takeListed(int top, boolean last) {
-            if ((openMarks[top] & FOLLOWS) != 0) {
-                text.add(open[top], openPlace[top]);
-            }
-            openMarks[top] |= FOLLOWS | (popKind() ? WRONG_KIND : 0);
-            if (last && (openMarks[top] & WRONG_KIND) != 0) {
-                note(KIND_FAULT, openPlace[top]);
-            }
-            if (last) {
-                pushKind(false);
-            }
         }
 
         /** All that the operation that was open last is made of has been looked at. */
@@ -1768,7 +1763,7 @@ public final class ChanceArena {
 
         void put(Natural other) {
             if (other.size > limbs.length) {
-                limbs = new int[other.limbs.length];
+                limbs = new int[Math.max(other.size, 2 * limbs.length)];
             }
             System.arraycopy(other.limbs, 0, limbs, 0, other.size);
             size = other.size;
@@ -1990,9 +1985,8 @@ public final class ChanceArena {
         void reserve(int count) {
             if (count > rows.length) {
                 Fraction[] larger = new Fraction[Math.min(STATES, Math.max(count, 2 * rows.length))];
-                System.arraycopy(rows, 0, larger, 0, rows.length);
-                for (int i = rows.length; i < larger.length; i++) {
-                    larger[i] = new Fraction();
+                for (int i = 0; i < larger.length; i++) {
+                    larger[i] = i < rows.length ? rows[i] : new Fraction();
                 }
                 rows = larger;
             }
