@@ -1040,32 +1040,21 @@ public final class ChanceArena {
             text.clear(words.count);
             machine.text = text;
             rules.begin(words, text);
-            boolean stands = true;
             for (int item = 0; item < words.count && words.sorts[rules.at] != END; item++) {
                 int sort = words.sorts[rules.at];
-                switch (sort) {
-                    case CONST:
-                    case FORMULA:
-                        stands = readNamed(sort) && settleNamed(sort);
-                        break;
-                    case VAR:
-                        stands = readVar() && settleVar();
-                        break;
-                    case TARGET:
-                        stands = readTarget();
-                        break;
-                    case MAX:
-                    case MIN:
-                        stands = readCommand(sort);
-                        break;
-                    default:
-                        stands = false;
-                        break;
-                }
+                boolean stands = sort == VAR ? readVar() : sort == TARGET ? readTarget()
+                    : sort == MAX || sort == MIN ? readCommand(sort)
+                    : (sort == CONST || sort == FORMULA) && readNamed(sort);
                 if (!stands) {
+                    // A word that can't stand goes before all that was noted.
                     rules.fault = WORD_FAULT;
                     rules.place = rules.here();
                     return WORD_FAULT;
+                }
+                if (sort == VAR) {
+                    settleVar();
+                } else if (sort == CONST || sort == FORMULA) {
+                    settleNamed(sort);
                 }
             }
             if (text.target == NONE) {
@@ -1110,22 +1099,21 @@ public final class ChanceArena {
             return rules.accept(SEMICOLON);
         }
 
-        /** Answers true: what is wrong with an item that stands is noted. */
-        private boolean settleNamed(int sort) {
-            if (rules.fault != 0) {
-                return true;
+        /** The item stands; what is wrong with its number is noted. */
+        private void settleNamed(int sort) {
+            if (rules.fault != 0 || sort == CONST && !worksOut(0, false)) {
+                return;
             }
             int index = text.names;
-            if (sort == FORMULA) {
-                text.formula[index] = ruleStart[0];
-            } else if (worksOut(0, false)) {
+            text.names++;
+            text.formula[index] = ruleStart[0];
+            if (sort == CONST) {
                 text.above[index] = machine.above[0];
                 text.below[index] = machine.below[0];
+                // A const's rule is not worked out again.
                 text.length = ruleStart[0];
             }
-            text.names++;
             rules.know(nameWord, sort, index, truth);
-            return true;
         }
 
         private boolean worksOut(int which, boolean whole) {
@@ -1158,8 +1146,8 @@ public final class ChanceArena {
             return rules.accept(SEMICOLON);
         }
 
-        /** Answers true: what is wrong with an item that stands is noted. */
-        private boolean settleVar() {
+        /** The item stands; what is wrong with its numbers is noted. */
+        private void settleVar() {
             int low = 0;
             int high = 1;
             if (rules.fault == 0 && !truth) {
@@ -1182,7 +1170,6 @@ public final class ChanceArena {
                 text.vars++;
                 text.length = itemStart;
             }
-            return true;
         }
 
         private boolean readTarget() {
