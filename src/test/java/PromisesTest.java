@@ -104,7 +104,9 @@ public final class PromisesTest {
             t.due("2 feed", a.feed(0x20202020, 0x20202020, 0x20202020, 0x20202020, 0x20202020), 20 * i);
         }
         t.due("2 feed more than 16384", a.feed(0, 0, 0, 0, 0), -1);
-        t.due("2 nothing is done", a.end(4), 16364);
+        t.due("2 nothing is done", a.end(5), 16365);
+        t.due("2 feed more than 16384", a.feed(0, 0, 0, 0, 0), -1);
+        t.due("2 blanks", a.end(19), 16364);
         t.due("2 feed to 16384", a.feed(0x20202020, 0x20202020, 0x20202020, 0x20202020, 0x20202020), 16384);
         t.due("2 feed more than 16384", a.feed(0, 0, 0, 0, 0), -1);
         t.due("2 blanks alone", a.compile() + "@" + a.place(), "10@16384");
@@ -174,6 +176,11 @@ public final class PromisesTest {
         fault("const\u000ba=1;target true;", "1@5");
         fault("const A=1;const a=2;target A!=a;", "0@-1");
         fault("Const a=1;target true;", "1@0");
+        fault("const aAzZ_09=1;const z=2;const Z=3;const A=4;const z0189=5;target z+Z+A+aAzZ_09+z0189=15;", "0@-1");
+        for (char c : new char[] {'@', '[', '`', '{', '/', '"', '$', '\\', '^', '~', 0, 127, 128, 255}) {
+            fault("const a" + c + "=1;target true;", "1@7");
+            fault("const " + c + "a=1;target true;", "1@6");
+        }
         fault("const least=1;target true;", "1@6");
         fault("var x:0...1;target true;", "1@9");
         fault("target true", "1@11");
@@ -222,6 +229,14 @@ public final class PromisesTest {
         fault("var x:0..1;max true->1:(x'=1)&(x'=" + times("(", 40) + "1", "1@73");
         fault("const a=(true?" + times("(", 38) + "1" + times(")", 38) + ":" + times("-", 38) + "1);target true;", "0@-1");
         fault("const a=(true?1:" + times("-", 39) + "1);target true;", "1@" + (16 + 38));
+        // What is over counts no more, and what is no level never counts.
+        String[] over = {"1+1", "2*1/3%1", "(1)", "-1", "least(1,2)", "(1=1?1:2)", "(!true?1:2)", "(true&!false|true?1:2)", "(1<2?-1:-2)"};
+        for (String rule : over) {
+            String text = "const a=" + rule + "+" + rule + "-" + times("(", 40) + "1";
+            String closed = times(")", 40) + ";target true;";
+            fault(text + closed, rule.startsWith("2*1/3") ? "8@13" : "0@-1");
+            fault("const a=" + rule + "+" + rule + "-" + times("(", 41) + "1)" + closed, "1@" + (text.length() - 1));
+        }
     }
 
     private void names() {
@@ -523,7 +538,20 @@ public final class PromisesTest {
         t.due("16 the least ones", Harness.printed(b, 0, 0) + Harness.printed(b, 1, 0) + Harness.printed(b, 2, 0), "001");
         ChanceArena c = solved("var x:0..2;max x=0->1/2:stay+1/2:(x'=1);max x=0->1:stay;target x=1;");
         t.due("16 max does not wait", Harness.printed(c, 0, 0), "1");
+        // Equations whose determinant, or a part of it, is a multiple of the prime 1073741789.
+        determinant(0, 0, "32780/1073741789");
+        determinant(5, 7, null);
         refusals();
+    }
+
+    private void determinant(int one, int other, String want) {
+        String text = "var x:0..4;max x=0->1/2:(x'=1)+1/2:(x'=2);"
+            + "max x=1->9/32770:(x'=2)+1/32770:(x'=3)+" + one + "/32770:(x'=0)+1-" + (10 + one) + "/32770:(x'=4);"
+            + "min x=2->18209/32771:(x'=1)+1/32771:(x'=3)+" + other + "/32771:(x'=0)+1-" + (18210 + other) + "/32771:(x'=4);"
+            + "target x=3;";
+        t.hold(new ChanceArena(), text, new Random(1));
+        ChanceArena a = solved(text);
+        t.due("16 determinant", want == null ? a.billionths(0, 0) > 0 : Harness.printed(a, 1, 0), want == null ? true : want);
     }
 
     private static String chain(int states, String chance) {
