@@ -205,6 +205,36 @@ public final class PromisesTest {
         fault("var x:bool..1;target true;", "1@10");
         fault("var x:0..1 init;target true;", "1@15");
         fault("target unknown; const", "1@21");
+        fault("init true->1:stay;target true;", "1@0");
+        fault("bool true->1:stay;target true;", "1@0");
+        fault("x=1;target true;", "1@0");
+        fault("var x:0->1;target true;", "1@7");
+        fault("var x:0:1;target true;", "1@7");
+        fault("var x:var;target true;", "1@6");
+        fault("var x=0..1;target true;", "1@5");
+        fault("var x:0..1 min 1;target true;", "1@11");
+        fault("var:0..1;target true;", "1@3");
+        fault("const a:1;target true;", "1@7");
+        fault("const a=1,target true;", "1@9");
+        fault("max true..1:stay;target true;", "1@8");
+        fault("max true->1;stay;target true;", "1@11");
+        fault("var x:0..1;max true->1:(x'=1;target true;", "1@28");
+        fault("var x:0..1;max true->1:(x'=1,2);target true;", "1@28");
+        fault("var x:0..1;max true->1:x'=1;target true;", "1@23");
+        fault("var x:0..1;max true->1:(x'=1)&stay;target true;", "1@30");
+        fault("var x:0..1;max true->1:(x'=1)|(x'=1);target true;", "1@29");
+        fault("var x:0..1;max true->1:(1'=1);target true;", "1@24");
+        fault("target (true;", "1@12");
+        fault("target true);", "1@11");
+        fault("target true true;", "1@12");
+        fault("target 1=1=1;", "1@10");
+        fault("target 1 2;", "1@9");
+        fault("target;", "1@6");
+        fault("target +1=1;", "1@7");
+        fault("target 1=+1;", "1@9");
+        fault("target true:false;", "1@11");
+        fault("target true ? true;", "1@18");
+        fault("target true, true;", "1@11");
     }
 
     private void levels() {
@@ -332,6 +362,9 @@ public final class PromisesTest {
         fault("const a=1/31623/31623;target true;", "6@15");
         fault("const a=1/31622/31622;target true;", "0@-1");
         fault("const a=999999999*2/2;target true;", "6@17");
+        fault("const a=1/100000/10000;target true;", "6@16");
+        fault("const a=1/99999/10000;target true;", "0@-1");
+        fault("const a=-100000*10000;target true;", "6@15");
         fault("const a=999999999/7*7/3;target true;", "0@-1");
         fault("const a=1/0;target true;", "7@9");
         fault("const a=1%0;target true;", "7@9");
@@ -426,6 +459,10 @@ public final class PromisesTest {
         exploreFault("var x:0..3;max false->1:stay;min x=0->1:stay;target x=3;", "0@-1@-1@1");
         exploreFault("var x:0..3;max true->1/31607:(x'=1)+1/2-1/31607:(x'=2)+1/31627:(x'=3)+1/2-1/31627:stay;target x=3;", "6@11@0@0");
         exploreFault("max true->1/999999999:stay+1-1/999999999:stay;target false;", "0@-1@-1@1");
+        exploreFault("max true->1/512:stay+1/1953125:stay+1/2:stay;target false;", "6@0@0@0");
+        exploreFault("max true->1/256:stay+1/1953125:stay+1/2:stay;target false;", "11@0@0@0");
+        exploreFault("var x:0..2;formula f=1/3;max x=0->f:(x'=1)+f:(x'=2)+f:stay;target x=1;", "0@-1@-1@3");
+        exploreFault("var x:0..2;formula f=1/(x+2);formula g=f+f;max x=0->f:(x'=1)+f*g:(x'=2);max x=2->g+g:(x'=1);target x=1;", "0@-1@-1@3");
         exploreFault("max true->1/31623:stay+1/31622:stay+1/2:stay;target false;", "11@0@0@0");
         exploreFault("max true->1/31624:stay+1/31623:stay+1/2:stay;target false;", "6@0@0@0");
         exploreFault("var x:0..511;max x<511->1:(x'=x+1);target false;", "0@-1@-1@512");
@@ -563,6 +600,10 @@ public final class PromisesTest {
         t.due("16 forty-one", explored(chain(41, "1/2")).solve(), 5);
         // 4096 weighs 13, 2048 weighs 12, and a number in between weighs as the greater one.
         t.due("16 weight 480", explored(chain(40, "1/2048")).solve(), 0);
+        String mixed = "var x:0..41;max x<14->1/999999937:(x'=x+1)+999999936/999999937:(x'=41);"
+            + "max x>=14&x<34->1/2:(x'=x+1)+1/2:(x'=41);max x>=34&x<40->1:(x'=x+1);target x=40;";
+        t.due("16 weight 14 * 31 + 20 * 2 + 6", explored(mixed).solve(), 0);
+        t.due("16 weight 14 * 31 + 21 * 2 + 5", explored(mixed.replace("34", "35")).solve(), 6);
         t.due("16 weight 481", explored("var x:0..40;max x<39->1/2048:(x'=x+1)+2047/2048:(x'=0);"
             + "max x=39->1/2049:(x'=x+1)+2048/2049:(x'=0);target x=40;").solve(), 6);
         t.due("16 the greatest command weighs", explored("var x:0..40;max x<40->1/2048:(x'=x+1)+2047/2048:(x'=0);"
