@@ -11,7 +11,7 @@ public final class CheckTest {
         for (int k = 0; k < 5; k++) {
             ChanceArena arena = solved();
             T.due("holds", arena.check(), 1);
-            spoilValue(arena, k);
+            put(arena, k, 2, 7);
             T.due("state " + k + " has another value", arena.check(), 0);
         }
         for (int k = 0; k < 5; k++) {
@@ -43,10 +43,6 @@ public final class CheckTest {
         Field field = of.getClass().getDeclaredField(name);
         field.setAccessible(true);
         return field.get(of);
-    }
-
-    private static void spoilValue(ChanceArena arena, int k) throws ReflectiveOperationException {
-        put(arena, k, 2, 7);
     }
 
     private static void put(ChanceArena arena, int k, int above, int below) throws ReflectiveOperationException {
