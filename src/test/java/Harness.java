@@ -38,7 +38,7 @@ final class Harness {
         }
     }
 
-    static int four(String text, int from) {
+    private static int four(String text, int from) {
         int bytes = 0;
         for (int i = from; i < from + 4; i++) {
             bytes = bytes << 8 | (i < text.length() ? text.charAt(i) : 'Q');
@@ -46,13 +46,19 @@ final class Harness {
         return bytes;
     }
 
-    /** Puts a text on the tape. */
+    private static void twenty(ChanceArena arena, String text, int from) {
+        arena.feed(four(text, from), four(text, from + 4), four(text, from + 8), four(text, from + 12), four(text, from + 16));
+    }
+
+    /** Puts a text on the tape; what is less than twenty goes first, so that a text of 16384 has room. */
     static void feed(ChanceArena arena, String text) {
-        for (int i = 0; i < text.length(); i += 20) {
-            arena.feed(four(text, i), four(text, i + 4), four(text, i + 8), four(text, i + 12), four(text, i + 16));
+        int rest = text.length() % 20;
+        if (rest != 0) {
+            twenty(arena, text, 0);
+            arena.end(rest);
         }
-        if (text.length() % 20 != 0) {
-            arena.end(text.length() % 20);
+        for (int i = rest; i < text.length(); i += 20) {
+            twenty(arena, text, i);
         }
     }
 
