@@ -533,6 +533,9 @@ public final class CallsEdgesTest {
         e.due("the first of max's, the second of min's", a.next(0, 0) + " " + a.next(1, 715827882) + " " + a.next(1, 715827883), "1 2 3");
         e.due("judged by them", a.judge(1) + a.compare(0, 2, 0, 0) + a.judge(2) + a.compare(0, 2, 0, 0), 0);
         e.due("they stay", a.solve() + " " + a.next(1, 715827883), "0 3");
+        ChanceArena zero = Edges.solved("var x:0..9;min x=0->1:(x'=1);min x=0->1:stay;max x=1->1:(x'=2);max x=1->1:(x'=3);max x=3->1:(x'=4);max x=2->1:stay;"
+            + "target x=4;");
+        e.due("of a state of value 0", Edges.adopt(zero) + " " + Edges.choices(zero) + told(zero), "done 1 1 0 0 -1 0 0 3 3 2 2 4 4 4 4");
         e.says("19: IllegalStateException when values were not worked out");
         e.due("a new object", Edges.adopt(new ChanceArena()), "IllegalStateException");
         e.due("compiled", Edges.adopt(Edges.compiled(GAME)), "IllegalStateException");

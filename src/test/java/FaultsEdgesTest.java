@@ -552,6 +552,9 @@ public final class FaultsEdgesTest {
         e.stuck(5, 511, "var x:0..511;max x=0->1:stay;@" + eight + ";target false;");
         e.stuck(5, 511, "var x:0..511;min x=0->1:stay;@" + eight.toString().replace("max", "min") + ";target false;");
         e.found(512, full + "max x=511->1:stay;target x=510;");
+        ChanceArena again = Edges.compiled(full + "target false;");
+        e.due("explored again and again", again.explore() + " " + again.explore() + " " + again.explore() + " " + again.states() + " "
+            + Edges.branches(again, 511, 0).startsWith("511:1/8 0:1/8"), "0 0 0 512 true");
         e.says("4: 5 MANY: what is joined to another one is none");
         StringBuilder seven = new StringBuilder("max true->");
         for (int i = 0; i < 7; i++) {

@@ -90,6 +90,14 @@ public final class NamesEdgesTest {
         e.fault(8, "var x:@1/2..9;target true;");
         e.stands("const h=1/2;var x:h+h..h*4;target x=1;");
         e.worth("6/2%2", "1");
+        for (String[] quotient : new String[][] {{"6/1", "6"}, {"6/-1", "-6"}, {"-6/-1", "6"}, {"-6/1", "-6"}, {"6/-2", "-3"}, {"-6/-2", "3"}, {"0/1", "0"},
+                {"0/-1", "0"}, {"0/-7", "0"}, {"0*(1/2)", "0"}, {"1/2-1/2", "0"}, {"1/3/(1/3)", "1"}, {"1/3/(-1/3)", "-1"}}) {
+            e.worth(quotient[0], quotient[1]);
+            e.worth("(" + quotient[0] + ")%5", quotient[1] + "%5");
+            e.stands("var x:" + quotient[0] + "..9;target x=" + quotient[1] + ";");
+            e.worth("((" + quotient[0] + ")<" + quotient[1] + "+1/2)", "true");
+            e.worth("((" + quotient[0] + ")>" + quotient[1] + "-1/2)", "true");
+        }
         e.ruleFault(8, "5/2@%2");
     }
 
@@ -199,6 +207,9 @@ public final class NamesEdgesTest {
         e.ruleFault(7, "least(1,1@/0)");
         e.ruleFault(7, "most(1@/0,1)");
         e.ruleFault(7, "most(1,2,1@/0,2%0)");
+        e.worth("(true|1<least(1,2))", "true");
+        e.worth("(true&1=most(1))", "true");
+        e.worth("(false|2>least(3,1,2)&true)", "true");
         e.ruleFault(3, "@least(true)");
         e.ruleFault(3, "@most(1,true)");
         e.ruleFault(3, "@most(true,1)");
@@ -252,6 +263,17 @@ public final class NamesEdgesTest {
         e.stuck(7, 0, "formula f=1/0;formula g=2@%0;target g=f;");
         e.stuck(6, 0, "var x:0..1;formula f=(x+999999999)@*2;target f=1;");
         e.stuck(8, 0, "var x:0..1;formula f=(x+1)/2@%2;target f=1;");
+        e.says("3: the value of its rule, wherever it is met");
+        e.due("a fraction", Edges.explored("formula f=1/3;target f+f+f=1&f=2/6&f<1/2;").kind(0), 3);
+        e.due("a truth", Edges.explored("formula f=1=1;formula g=!f;target f&!g&f&!g;").kind(0), 3);
+        StringBuilder wide = new StringBuilder("formula f0=5;");
+        StringBuilder twice = new StringBuilder("formula f0=5;");
+        for (int i = 1; i < 60; i++) {
+            wide.append("formula f").append(i).append("=1-(2-(3-(2-f").append(i - 1).append(")));");
+            twice.append("formula f").append(i).append("=least(f").append(i - 1).append(",f").append(i - 1).append(");");
+        }
+        e.due("one in another", Edges.explored(wide + "target f59=5;").kind(0), 3);
+        e.due("twice the same", Edges.explored(twice + "target f59=5;").kind(0), 3);
         e.says("3: in what is not worked out it is not met");
         e.found(1, "formula f=1/0;target true|f=1;");
         e.found(1, "formula f=1/0;target !(false&f=1);");
@@ -311,7 +333,8 @@ public final class NamesEdgesTest {
         e.fault(5, both + "@const d=1;target true;");
         e.fault(5, both + "target true;@formula d=1;");
         e.due("sixty", Edges.compiled(both + "target true;").items(1), 60);
-        e.stands(both + Edges.many("var v*:bool;", 12) + "target true;");
+        e.stands(both + Edges.many("var v*:bool;", 12) + "target v11&f29=c29;");
+        e.stands(Edges.many("var v*:bool;", 12) + both + "target v11&f29=c29;");
         e.fault(5, both + Edges.many("var v*:bool;", 12) + "@const d=1;target true;");
         e.fault(5, both + Edges.many("var v*:bool;", 12) + "@var d:bool;target true;");
         String chain = "formula f0=1;" + Edges.many("formula g*=*+f0;", 59);

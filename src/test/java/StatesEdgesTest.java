@@ -31,6 +31,8 @@ public final class StatesEdgesTest {
         e.says("5: states are the same if all vars have the same values");
         e.due("the last var counts", Edges.states(Edges.explored(Edges.many("var v*:0..1;", 12) + "max v11=0->1:(v11'=1);target false;")),
             "0,0,0,0,0,0,0,0,0,0,0,0 0,0,0,0,0,0,0,0,0,0,0,1");
+        ChanceArena twelve = Edges.explored(Edges.many("var v*:0..1;", 12) + "max v11=0->1:(v11'=1);max v11=0->1:stay;max v11=1->1:(v11'=0);target false;");
+        e.due("all twelve are the same", twelve.states() + ", " + Edges.branches(twelve, 0, 1) + ", " + Edges.branches(twelve, 1, 0), "2, 0:1/1, 0:1/1");
         e.due("the first var counts", Edges.states(Edges.explored("var a:-1..1;var b:0..1;max a=-1->1:(a'=1);max a=1->1:(a'=0);target false;")),
             "-1,0 1,0 0,0");
         e.due("all of them", Edges.explored(Edges.many("var v*:0..1;", 8) + flips(8) + "target false;").states(), 256);

@@ -21,6 +21,8 @@ public final class WordsEdgesTest {
         test.levels();
         test.levelsThatAreOver();
         test.firstWordThatCannotStand();
+        test.everyWordEverywhere();
+        test.oneTextAfterAnother();
         test.e.finish();
     }
 
@@ -271,6 +273,7 @@ public final class WordsEdgesTest {
             e.fault(1, word + " true->@");
             e.fault(1, word + " true->@;");
             e.fault(1, word + " true->@:stay;");
+            e.fault(1, word + " true->@stay;");
             e.fault(1, word + " true->1@;");
             e.fault(1, word + " true->1@->1:stay;");
             e.fault(1, word + " true->1:@");
@@ -416,6 +419,11 @@ public final class WordsEdgesTest {
         e.worth("8%-(-3)", "2");
         e.worth("1+1=2", "true");
         e.worth("1=2-1", "true");
+        e.worth("(!true)", "false");
+        e.worth("(!false)", "true");
+        e.worth("(!!true)", "true");
+        e.worth("(!!false)", "false");
+        e.worth("--3", "3");
         e.worth("!1=2", "true");
         e.worth("!true=false", "true");
         e.worth("!true&false", "false");
@@ -534,5 +542,76 @@ public final class WordsEdgesTest {
         e.fault(1, "target true;const@");
         e.fault(1, "target true;const  \n#\n @");
         e.fault(1, "target true;const b=(1@");
+    }
+
+    private static final String BASE = "const a = - 1 + 2 * 3 ; formula f = least ( a , 4 / 2 ) ; var x : 0 .. a + 5 init 3 ; var y : bool init ! false ; "
+        + "max x = 3 & y | false -> 1 / 2 : ( x ' = 4 ) & ( y ' = x < f ? true : false ) + 1 / 2 : stay ; min x >= 4 -> 1 : ( x ' = most ( 3 ) % 2 ) ; "
+        + "target x != 0 ;";
+    private static final String[] ALPHABET = ("const var bool formula max min init stay target true false least most .. -> != <= >= < > = + - * / % & | ! ? : ; , "
+        + "( ) ' a f x y nobody 1 0 999999999 1234567890 $").split(" ");
+
+    /** Each word at each place of a text, in place of what stands there, in front of it, and as the last one. */
+    private void everyWordEverywhere() {
+        e.says("4: 1: no word, or one that can't stand");
+        String[] words = BASE.split(" ");
+        e.due("the text itself", expected(BASE), "0@-1");
+        for (int i = 0; i <= words.length; i++) {
+            String before = join(words, 0, i);
+            asExpected(before);
+            asExpected(before + join(words, i + 1, words.length));
+            for (String word : ALPHABET) {
+                asExpected(before + word);
+                asExpected(before + word + " " + join(words, i + 1, words.length));
+                asExpected(before + word + " " + join(words, i, words.length));
+            }
+        }
+    }
+
+    private static String join(String[] words, int from, int to) {
+        StringBuilder text = new StringBuilder();
+        for (int i = from; i < to; i++) {
+            text.append(words[i]).append(" ");
+        }
+        return text.toString();
+    }
+
+    private static String expected(String text) {
+        try {
+            Model.compile(text);
+            return "0@-1";
+        } catch (Model.Fault fault) {
+            return fault.number + "@" + fault.place;
+        }
+    }
+
+    private void asExpected(String text) {
+        e.due("compile of " + text, Harness.fault(new ChanceArena(), text), expected(text));
+    }
+
+    /** What one text left behind does not count in the next one. */
+    private void oneTextAfterAnother() {
+        e.says("4: one text after another");
+        String deep = "const a=" + Edges.times("(", 40) + "1" + Edges.times(")", 40) + ";target a=1;";
+        String[] wrong = {"const a=" + Edges.times("(", 41), "const a=" + Edges.times("-", 20) + "(", "const a=1+2*", "const a=true?1:", "const a=least(1,",
+            "const a=" + Edges.times("!", 40), "var x:0..1;max true->1:(x'=(", "const a=1=", "target true&", "const a=true+1;", "const b=1;const b=1;"};
+        ChanceArena arena = new ChanceArena();
+        for (String text : wrong) {
+            e.due("a fault in " + text, Harness.compile(arena, text) == 0, false);
+            e.due("the next text after " + text, Harness.fault(arena, deep), "0@-1");
+            e.due("a truth after " + text, Harness.fault(arena, "const a=!true|1<2;target a;"), "0@-1");
+        }
+        int[] names = {60, 1, 0, 12, 59, 60, 0};
+        for (int count : names) {
+            String text = Edges.many("const c*=1;", count) + Edges.many("var v*:bool;", count % 13) + Edges.times("max true->1:stay;", count) + "target true;";
+            e.due("compile", Harness.fault(arena, text), "0@-1");
+            e.due("items", arena.items(0) + " " + arena.items(1) + " " + arena.items(2), count % 13 + " " + count + " " + count);
+        }
+        ChanceArena often = new ChanceArena();
+        String long1 = "const a=" + Edges.times("1+", 100) + "1;target a=101;";
+        for (int i = 0; i < 30; i++) {
+            e.due("compile", Harness.fault(often, i % 2 == 0 ? long1 : "target true&false|true;"), "0@-1");
+            often.explore();
+            e.due("a target", often.kind(0), 3);
+        }
     }
 }
