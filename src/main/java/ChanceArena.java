@@ -301,7 +301,6 @@ public final class ChanceArena {
                 return LARGE_FAULT;
             }
         }
-        earlier.known = false;
         withins.known = true;
         return 0;
     }

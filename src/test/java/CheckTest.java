@@ -20,6 +20,13 @@ public final class CheckTest {
             ranks[k] = ranks[k] == 1 ? 2 : 1;
             T.due("state " + k + " has another rank", arena.check(), 0);
         }
+        // Each number is one that a command has, but not the greatest, or not the least one; or none that a command has.
+        wrong("var x:0..2;max x=0->1/2:(x'=1)+1/2:(x'=2);max x=0->1:(x'=1);target x=1;", 1, 2);
+        wrong("var x:0..2;min x=0->1/2:(x'=1)+1/2:(x'=2);min x=0->1:(x'=1);target x=1;", 1, 1);
+        wrong("var x:0..2;min x=0->1/2:(x'=1)+1/2:(x'=2);target x=1;", 1, 3);
+        wrong("var x:0..2;max x=0->1/2:(x'=1)+1/2:(x'=2);target x=1;", 2, 3);
+        wrong("var x:0..2;max x=0->1/2:(x'=1)+1/2:(x'=2);target x=1;", 0, 1);
+        wrong("var x:0..2;max x=0->1/2:(x'=1)+1/2:(x'=2);target x=1;", 3, 2);
         // The number one half fits a state that leads to itself, but it is not the least one.
         ChanceArena arena = new ChanceArena();
         Harness.compile(arena, "var x:0..1;max x=0->1:stay;target x=1;");
@@ -32,11 +39,15 @@ public final class CheckTest {
     }
 
     private static ChanceArena solved() {
-        ChanceArena arena = new ChanceArena();
-        Harness.compile(arena, TEXT);
-        arena.explore();
-        arena.solve();
-        return arena;
+        return Edges.solved(TEXT);
+    }
+
+    /** Another number for state 0 does not hold. */
+    private static void wrong(String text, int above, int below) throws ReflectiveOperationException {
+        ChanceArena arena = Edges.solved(text);
+        T.due("holds", arena.check(), 1);
+        put(arena, 0, above, below);
+        T.due("state 0 has " + above + "/" + below + " in " + text, arena.check(), 0);
     }
 
     private static Object field(Object of, String name) throws ReflectiveOperationException {

@@ -74,6 +74,11 @@ public final class NamesEdgesTest {
         e.worth("1/3+1/6", "1/2");
         e.worth("1/999999999-1/999999999", "0");
         e.worth("1/3*3", "1");
+        e.worth("(3/2/1<2)", "true");
+        e.worth("3/2/1+1/2", "2");
+        e.worth("(-3/2/1>-2)", "true");
+        e.worth("(3/2/-1<-1)", "true");
+        e.worth("3/2/-1-1/2", "-2");
         e.ruleFault(6, "999999999@*2/2");
         e.ruleFault(6, "(999999999@+1)-1");
         e.says("3: exact");

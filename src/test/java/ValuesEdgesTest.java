@@ -15,6 +15,7 @@ public final class ValuesEdgesTest {
         test.eachWeight();
         test.whatWeighs();
         test.manyBeforeLarge();
+        test.asManyAsThereMayBe();
         test.ranks();
         test.choices();
         test.within();
@@ -198,6 +199,27 @@ public final class ValuesEdgesTest {
         e.says("6: more than 40 (5 MANY), or their WEIGHTS together are above 480 (6 LARGE)");
         e.due("both", solve(row(same(41, 2049))), 5);
         e.due("one", solve(row(same(40, 2049))), 6);
+    }
+
+    private void asManyAsThereMayBe() {
+        e.says("4: 512 states, 4096 branches");
+        String states = "var x:0..511;max x<511->1:(x'=x+1);";
+        ChanceArena commands = Edges.explored(states + Edges.times("max true->1:stay;", 7) + "max x=511->1:stay;target false;");
+        e.due("4096 commands", commands.solve() + " " + commands.check() + " " + commands.judge(1) + " " + commands.judge(2) + " " + commands.within(32), "0 1 0 0 0");
+        e.due("the last state", commands.commands(511) + " " + Harness.printed(commands, 511, 0) + " " + commands.choice(511) + " " + commands.rank(511) + " "
+            + Edges.choose(commands, 511, 7) + " " + commands.next(511, 0) + " " + Edges.adopt(commands), "8 0 0 -1 done 511 done");
+        StringBuilder eight = new StringBuilder("var x:0..511;min true->");
+        for (int i = 0; i < 8; i++) {
+            eight.append(i == 0 ? "" : "+").append("1/8:(x'=(x+").append(i).append(")%512)");
+        }
+        ChanceArena full = Edges.explored(eight + ";target false;");
+        e.due("4096 branches", full.states() + " " + full.solve() + " " + full.check() + " " + full.judge(1) + " " + full.within(32) + " " + full.branch(511, 0, 7, 0)
+            + " " + full.next(511, Integer.MAX_VALUE), "512 0 1 0 0 6 6");
+        ChanceArena last = Edges.explored(eight + ";target x=511;");
+        e.due("too many unknown ones", last.solve() + " " + last.judge(1) + " " + last.judge(2), "5 5 5");
+        e.due("one move", last.within(1) + " " + last.billionths(510, 1) + " " + last.billionths(504, 1) + " " + last.billionths(503, 1), "0 125000000 125000000 0");
+        e.due("as many moves as there may be", last.within(32) + " " + Harness.printed(last, 511 - 7 * 32, 1) + " " + Harness.printed(last, 510 - 7 * 32, 1),
+            "0 1/" + BigInteger.ONE.shiftLeft(3 * 32) + " 0");
     }
 
     private void ranks() {
