@@ -794,6 +794,9 @@ public final class CallsEdgesTest {
         e.due("998", late.next(0, MOST - 2) + " " + late.next(0, MOST - 1) + " " + late.next(0, MOST), "1 2 2");
         ChanceArena sure = Edges.explored("var x:0..2;max x=0->0:(x'=2)+1:(x'=1);target false;");
         e.due("1", sure.next(0, 0) + " " + sure.next(0, MOST), "1 1");
+        ChanceArena joined = Edges.explored("var x:0..2;max x=0->1/4:(x'=1)+0:stay+1/2:(x'=2)+1/4:(x'=1);target false;");
+        e.due("joined branches have both chances", joined.next(0, quarter) + " " + joined.next(0, 2 * quarter - 1) + " " + joined.next(0, 2 * quarter) + " "
+            + joined.next(0, MOST), "1 1 2 2");
         e.says("27: a state's told choice");
         ChanceArena a = Edges.solved(GAME);
         e.due("the first one", a.next(0, 0), 1);

@@ -47,7 +47,10 @@ final class Harness {
     }
 
     private static void twenty(ChanceArena arena, String text, int from) {
-        arena.feed(four(text, from), four(text, from + 4), four(text, from + 8), four(text, from + 12), four(text, from + 16));
+        int length = arena.feed(four(text, from), four(text, from + 4), four(text, from + 8), four(text, from + 12), four(text, from + 16));
+        if (length < 0) {
+            throw new IllegalArgumentException("a text that is too long for the tape");
+        }
     }
 
     /** Puts a text on the tape; what is less than twenty goes first, so that a text of 16384 has room. */

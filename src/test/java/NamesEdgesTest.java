@@ -19,6 +19,7 @@ public final class NamesEdgesTest {
         test.howManyCommands();
         test.howManyBranches();
         test.oneTarget();
+        test.farTooMany();
         test.e.finish();
     }
 
@@ -382,6 +383,25 @@ public final class NamesEdgesTest {
         ChanceArena full = Edges.explored("var x:0..8;" + Edges.times(command, 60) + "target x>0;");
         e.due("all of them", full.commands(0) + ": " + Edges.branches(full, 0, 59),
             "60: 1:1/8 2:1/8 3:1/8 4:1/8 5:1/8 6:1/8 7:1/8 8:1/8");
+    }
+
+    private void farTooMany() {
+        e.says("3: far more than there may be");
+        e.fault(5, Edges.many("var v*:bool;", 12) + "@" + Edges.many("var w*:0..1;", 800) + "target true;");
+        e.fault(5, Edges.many("const c*=1;", 60) + "@" + Edges.many("formula f*=c0;", 800) + "target true;");
+        e.fault(5, Edges.times("max true->1/2:stay+1/2:stay;", 60) + "@" + Edges.times("min true->1/2:stay+1/2:stay;", 500) + "target true;");
+        e.fault(5, "max true->" + Edges.times("0:stay+", 8) + "@" + Edges.times("0:stay+", 2000) + "1:stay;target true;");
+        e.fault(5, Edges.times("max true->" + Edges.times("0:stay+", 7) + "1:stay;", 30) + "max true->" + Edges.times("0:stay+", 8) + "@"
+            + Edges.times("0:stay+", 1500) + "1:stay;target true;");
+        e.fault(4, "target true;@" + Edges.times("target true;", 1000));
+        e.fault(4, "var x:0..1;max true->1:(x'=1)&(@x'=1)" + Edges.times("&(x'=1)", 1500) + ";target true;");
+        e.fault(2, "const a=@b" + Edges.times("+b", 5000) + ";target true;");
+        e.fault(1, "const a=" + Edges.times("(", 40) + "@" + Edges.times("(", 10000));
+        e.fault(1, "const a=" + Edges.times("-", 40) + "@" + Edges.times("-", 10000));
+        e.fault(1, "const a=" + Edges.times("!", 40) + "@" + Edges.times("!", 10000));
+        e.fault(1, "const a=" + Edges.times("true?", 40) + "true@" + Edges.times("?true", 2000));
+        e.stands("const a=least(" + Edges.times("1,", 5000) + "1);target a=1;");
+        e.stands("const a=" + Edges.times("true&", 3000) + "true;target a;");
     }
 
     private void oneTarget() {
