@@ -1560,7 +1560,7 @@ public final class ChanceArena {
             Arrays.fill(machine.next, 0);
             System.arraycopy(text.init, 0, machine.next, 0, text.vars);
             enter();
-            for (int k = 0; k < count; k++) {
+            for (int k = 0; k < count && k < STATES; k++) {
                 int fault = lookAt(k);
                 for (int c = 0; c < text.commands && fault == 0 && sorts[k] != TARGET_STATE; c++) {
                     fault = tryCommand(k, c);

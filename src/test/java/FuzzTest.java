@@ -34,6 +34,11 @@ public final class FuzzTest {
         harness.finish();
     }
 
+    /** A random text for other tests. */
+    static String text(long seed) {
+        return new FuzzTest(seed).text();
+    }
+
     private int below(int n) {
         return random.nextInt(n);
     }
