@@ -24,6 +24,8 @@ public final class ChanceArena {
     private static final int BILLION = 1000000000;
     /** Far above what any run needs: only there so that each loop is seen to end. */
     private static final int ENDLESS = 1000000;
+    /** More rounds than any machine could go through. */
+    private static final long ROUNDS = 1L << 62;
 
     private static final int WORD_FAULT = 1;
     private static final int NAME_FAULT = 2;
@@ -2364,7 +2366,7 @@ public final class ChanceArena {
             }
             numbers.begin(game);
             boolean better = true;
-            for (int round = 0; round < ENDLESS && better; round++) {
+            for (long round = 0; round < ROUNDS && better; round++) {
                 evaluate(numbers);
                 better = improve(MIN_STATE, numbers) || improve(MAX_STATE, numbers);
             }
