@@ -24,7 +24,7 @@ public final class ChanceArena {
     private static final int BILLION = 1000000000;
     /** Far above what any run needs: only there so that each loop is seen to end. */
     private static final int ENDLESS = 1000000;
-    /** More rounds than any machine could go through. */
+    /** More rounds than any machine could go through: they end when no choice can be bettered. */
     private static final long ROUNDS = 1L << 62;
 
     private static final int WORD_FAULT = 1;
@@ -2327,6 +2327,11 @@ public final class ChanceArena {
 
     /** Works out values, and the ranks and choices that go with them. */
     private static final class Solver {
+        /** Rounds in which all states may take another command; nearly all texts need a few of them. */
+        private static final int WIDE_ROUNDS = 100;
+        private static final long DRAW_FACTOR = 6364136223846793005L;
+        private static final long DRAW_STEP = 1442695040888963407L;
+
         final Scales scales = new Scales();
         final int[] ranks = new int[STATES];
         final int[] choices = new int[STATES];
@@ -2340,6 +2345,11 @@ public final class ChanceArena {
         private final int[] unknown = new int[UNKNOWNS];
         private final int[] chosen = new int[UNKNOWNS];
         private int unknowns;
+        /** Commands that are not chosen, min's in front, each times UNKNOWNS, and its state's slot. */
+        private int[] others = new int[0];
+        private int otherCount;
+        private int minOthers;
+        private long drawn;
         private final boolean[] attains = new boolean[BRANCHES + 1];
         private final int[] probe = new int[STATES];
         private final Fraction worth = new Fraction();
@@ -2353,7 +2363,10 @@ public final class ChanceArena {
          * the refusal. Choices of min's are bettered until none can be, then those of max's once,
          * and so on. Max begins with choices that come to a target, and leaves one only for a
          * greater worth, so no unknown state ever loses its way to a target, and the equations of
-         * all choices that are met have one solution.
+         * all choices that are met have one solution. No choices of both players come back, so the
+         * rounds have an end. It is mostly near while all states take their best commands at once,
+         * but there are texts that count through millions of choices so; after some rounds, one
+         * state alone takes a better command in each.
          */
         int workOut(int keeper, Fractions numbers) {
             numbers.known = false;
@@ -2366,9 +2379,16 @@ public final class ChanceArena {
             }
             numbers.begin(game);
             boolean better = true;
-            for (long round = 0; round < ROUNDS && better; round++) {
+            for (int round = 0; round < WIDE_ROUNDS && better; round++) {
                 evaluate(numbers);
                 better = improve(MIN_STATE, numbers) || improve(MAX_STATE, numbers);
+            }
+            if (better) {
+                listOthers();
+            }
+            for (long round = 0; round < ROUNDS && better; round++) {
+                evaluate(numbers);
+                better = improveOne(numbers);
             }
             numbers.known = true;
             return 0;
@@ -2482,6 +2502,73 @@ public final class ChanceArena {
                 }
             }
             return better;
+        }
+
+        /** Lists the commands that are not chosen: min's, then max's. */
+        private void listOthers() {
+            if (others.length == 0) {
+                others = new int[UNKNOWNS * COMMANDS];
+            }
+            otherCount = 0;
+            drawn = 0;
+            addOthers(MIN_STATE);
+            minOthers = otherCount;
+            addOthers(MAX_STATE);
+            mix(0, minOthers);
+            mix(minOthers, otherCount);
+        }
+
+        private void addOthers(int player) {
+            for (int i = 0; i < unknowns; i++) {
+                int k = unknown[i];
+                for (int command = low[k]; command < high[k] && game.sorts[k] == player; command++) {
+                    if (command != chosen[i]) {
+                        others[otherCount++] = command * UNKNOWNS + i;
+                    }
+                    addToDraw(command);
+                }
+            }
+        }
+
+        /** Each game is mixed in its own way, so that no text can be made to fit a way that is known. */
+        private void addToDraw(int command) {
+            for (int at = game.firstBranch[command]; at < game.firstBranch[command + 1]; at++) {
+                drawn = drawn * DRAW_FACTOR + game.weight[at];
+                drawn = drawn * DRAW_FACTOR + game.goal[at];
+            }
+        }
+
+        /** Mixes the other commands from one place on, up to another. */
+        private void mix(int from, int to) {
+            for (int last = to - 1; last > from; last--) {
+                drawn = drawn * DRAW_FACTOR + DRAW_STEP;
+                int place = from + (int) ((drawn >>> 33) % (last - from + 1));
+                int kept = others[last];
+                others[last] = others[place];
+                others[place] = kept;
+            }
+        }
+
+        /**
+         * Takes the first of the other commands that is better than what is chosen in its state.
+         * Those in front of it, which were not better, are mixed anew, so that no text can count
+         * by their order: by this rule (Kalai's, for games Ludwig's) the rounds that are to be
+         * expected grow less than exponentially with the states, whatever the text.
+         */
+        private boolean improveOne(Fractions numbers) {
+            for (int at = 0; at < otherCount; at++) {
+                int command = others[at] / UNKNOWNS;
+                int i = others[at] % UNKNOWNS;
+                scales.weigh(game, command, numbers, worth);
+                if (scales.order(worth, numbers.rows[unknown[i]]) == (at < minOthers ? -1 : 1)) {
+                    others[at] = chosen[i] * UNKNOWNS + i;
+                    chosen[i] = command;
+                    mix(0, Math.min(at + 1, minOthers));
+                    mix(minOthers, at + 1);
+                    return true;
+                }
+            }
+            return false;
         }
 
         /** Ranks and choices by the values that were worked out. */
